@@ -990,17 +990,16 @@ public final class ThinRow {
             while (start < source.size && isBlank(source.at(start))) {
                 start++;
             }
-            kind = kindAt(start);
+            kind = kindOf(source.at(start));
             behind = kind == END ? start : start + 1;
             if (kind == WORD || kind == NUMBER) {
-                while (behind < source.size && kindAt(behind) == kind) {
+                while (behind < source.size && kindOf(source.at(behind)) == kind) {
                     behind++;
                 }
             }
         }
 
-        private int kindAt(int i) {
-            int octet = source.at(i);
+        private static int kindOf(int octet) {
             if (octet == NONE) {
                 return END;
             }
@@ -1031,27 +1030,28 @@ public final class ThinRow {
         }
 
         static int atPlace(Net net, int measure, int place) {
-            int ahead = net.aheadOf(place);
-            return isTakenOut(measure)
-                    ? ofTaking(net, measure, ahead, net.order[place]) : ofSet(net, measure, ahead);
+            return of(net, measure, net.aheadOf(place), net.order[place]);
         }
 
-        /** What comes as a point goes behind those ahead; the set of all points costs nothing. */
-        static int ofGoing(Net net, int measure, int ahead, int point) {
-            return isTakenOut(measure)
-                    ? ofTaking(net, measure, ahead, point) : ofSet(net, measure, ahead | 1 << point);
+        /** Those ahead at the step by which a point goes behind some. */
+        static int aheadAtStep(int measure, int some, int point) {
+            return isTakenOut(measure) ? some : some | 1 << point;
         }
 
-        static int ofSet(Net net, int measure, int set) {
-            if (measure == GATE) {
-                return gateSize(net, set);
+        /** The point is asked for only where points are taken out; all points ahead cost nothing. */
+        static int of(Net net, int measure, int ahead, int point) {
+            switch (measure) {
+                case GATE:
+                    return gateSize(net, ahead);
+                case PROFILE:
+                    return fringeSize(net, ahead);
+                case WIDTH:
+                    return Integer.bitCount(neighbours(net, ahead, point));
+                case FILL:
+                    return newLines(net, ahead, point);
+                default:
+                    return cutWeight(net, ahead);
             }
-            return measure == PROFILE ? fringeSize(net, set) : cutWeight(net, set);
-        }
-
-        static int ofTaking(Net net, int measure, int ahead, int point) {
-            int around = neighbours(net, ahead, point);
-            return measure == WIDTH ? Integer.bitCount(around) : newLines(net, ahead, around);
         }
 
         static int cutWeight(Net net, int set) {
@@ -1097,26 +1097,30 @@ public final class ThinRow {
                 if (wave == 0) {
                     break;
                 }
-                reached |= Shape.allNear(net, wave);
                 gone |= wave;
+                for (int p = 0; p < net.points; p++) {
+                    if ((wave >> p & 1) != 0) {
+                        reached |= net.nearBits[p];
+                    }
+                }
             }
             return reached & ~ahead & ~(1 << point);
         }
 
-        private static int newLines(Net net, int ahead, int around) {
+        private static int newLines(Net net, int ahead, int point) {
+            int around = neighbours(net, ahead, point);
             int lines = 0;
             for (int a = 0; a < net.points; a++) {
-                if ((around >> a & 1) != 0) {
-                    lines += Integer.bitCount(newEnds(net, ahead, around, a));
+                int greater = (around >> a & 1) == 0 ? 0 : aboveOf(around, a);
+                if (greater != 0) {
+                    lines += Integer.bitCount(greater & ~neighbours(net, ahead, a));
                 }
             }
             return lines;
         }
 
-        /** The greater points to which new lines come from a point as its twos become neighbours. */
-        static int newEnds(Net net, int ahead, int around, int a) {
-            int greater = around & -(2 << a);
-            return greater == 0 ? 0 : greater & ~neighbours(net, ahead, a);
+        static int aboveOf(int set, int point) {
+            return set & -(2 << point);
         }
     }
 
@@ -1154,19 +1158,15 @@ public final class ThinRow {
             return most;
         }
 
-        static int allNear(Net net, int set) {
-            int bits = 0;
+        /** A set and all that have a line with one of it. */
+        static int grown(Net net, int set) {
+            int bits = set;
             for (int p = 0; p < net.points; p++) {
                 if ((set >> p & 1) != 0) {
                     bits |= net.nearBits[p];
                 }
             }
             return bits;
-        }
-
-        /** A set and all that have a line with one of it. */
-        static int grown(Net net, int set) {
-            return set | allNear(net, set);
         }
 
         static int distance(Net net, int a, int b) {
@@ -1313,7 +1313,8 @@ public final class ThinRow {
             int ahead = 0;
             for (int i = 0; i < net.points; i++) {
                 int point = net.order[i];
-                whole = Prices.joined(measure, whole, Prices.ofGoing(net, measure, ahead, point));
+                int set = Prices.aheadAtStep(measure, ahead, point);
+                whole = Prices.joined(measure, whole, Prices.of(net, measure, set, point));
                 ahead |= 1 << point;
             }
             return whole;
@@ -1377,7 +1378,8 @@ public final class ThinRow {
                 int point = net.order[i];
                 int around = Prices.neighbours(net, ahead, point);
                 for (int a = 0; a < net.points; a++) {
-                    int ends = (around >> a & 1) == 0 ? 0 : Prices.newEnds(net, ahead, around, a);
+                    int ends = (around >> a & 1) == 0 ? 0
+                            : Prices.aboveOf(around, a) & ~Prices.neighbours(net, ahead, a);
                     int more = Integer.bitCount(ends);
                     if (k >= came && k < came + more) {
                         return 10 * a + bitAt(ends, k - came);
@@ -1442,7 +1444,8 @@ public final class ThinRow {
                 int least = ABOVE_ALL;
                 for (int p = 0; p < net.points; p++) {
                     if ((ahead >> p & 1) == 0) {
-                        int price = Prices.ofGoing(net, measure, ahead, p);
+                        int set = Prices.aheadAtStep(measure, ahead, p);
+                        int price = Prices.of(net, measure, set, p);
                         if (price < least) {
                             least = price;
                             chosen = p;
@@ -1553,7 +1556,7 @@ public final class ThinRow {
                 return;
             }
             for (int set = 0; set <= net.allBits(); set++) {
-                int price = Prices.ofSet(net, measure, set);
+                int price = Prices.of(net, measure, set, NONE);
                 for (int p = 0; p < net.points; p++) {
                     if ((set >> p & 1) != 0) {
                         target[(set ^ 1 << p) * MOST_POINTS + p] = price;
@@ -1579,7 +1582,7 @@ public final class ThinRow {
             int lines = 0;
             for (int a = 0; a < net.points; a++) {
                 if ((mine >> a & 1) != 0) {
-                    int greater = mine & -(2 << a);
+                    int greater = Prices.aboveOf(mine, a);
                     lines += Integer.bitCount(greater & ~around[set * MOST_POINTS + a]);
                 }
             }
