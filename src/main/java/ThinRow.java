@@ -1014,7 +1014,7 @@ public final class ThinRow {
         }
     }
 
-    /** What a step of a row costs, by the set of those ahead alone (and the point, where it is taken out). */
+    /** What a step of a row costs: in which order those ahead came is never asked. */
     private static final class Prices {
         static boolean isTakenOut(int measure) {
             return measure == WIDTH || measure == FILL;
@@ -1490,7 +1490,7 @@ public final class ThinRow {
         final int[] firstRow = new int[MOST_POINTS];
     }
 
-    /** What is known of the net of one slot: kept as long as its lines stay, as one row asks much. */
+    /** What is known of one slot's net: kept while its lines stay, as best() asks for each place. */
     private static final class Findings {
         final Finding[] ofMeasure = new Finding[MEASURE_COUNT];
         private final Net about = new Net();
